@@ -363,7 +363,15 @@ public final class SmallFrame {
       return true;
     }
 
-    void add(Packed other, boolean otherNegative) {
+    void add(Packed other) {
+      addSigned(other, other.negative);
+    }
+
+    void subtract(Packed other) {
+      addSigned(other, !other.negative);
+    }
+
+    private void addSigned(Packed other, boolean otherNegative) {
       if (negative == otherNegative) {
         addDigits(other);
       } else if (orderOfDigits(other) == 1) {
@@ -562,6 +570,8 @@ public final class SmallFrame {
     private int address;
     private int flags;
     private int count;
+    private int unit;
+    private int check;
 
     Channel() {
       reader = new Reader();
@@ -603,6 +613,9 @@ public final class SmallFrame {
       } else {
         takeCommand(storage);
       }
+      if (!works) {
+        putReport(storage);
+      }
     }
 
     private void takeCommand(Storage storage) {
@@ -610,7 +623,7 @@ public final class SmallFrame {
       place = (from + WORD_SIZE) & LOW_24_BITS;
       if (from % WORD_SIZE != 0 || !Storage.holds(from, WORD_SIZE)) {
         count = 0;
-        end(storage, 0, CHECK_PROGRAM);
+        end(0, CHECK_PROGRAM);
         return;
       }
       int told = storage.byteAt(from);
@@ -618,13 +631,13 @@ public final class SmallFrame {
       flags = storage.byteAt(from + 4);
       count = storage.halfAt(from + 6);
       if (!isTakeable(told)) {
-        end(storage, 0, CHECK_PROGRAM);
+        end(0, CHECK_PROGRAM);
       } else if (told == JUMP) {
         place = address;
         jumped = true;
       } else {
         jumped = false;
-        beginCommand(storage);
+        beginCommand();
       }
     }
 
@@ -640,7 +653,7 @@ public final class SmallFrame {
       return device == READER;
     }
 
-    private void beginCommand(Storage storage) {
+    private void beginCommand() {
       hasCommand = true;
       if (dataChained) {
         return;
@@ -648,20 +661,20 @@ public final class SmallFrame {
       if (!isReading()) {
         printer.beginLine();
       } else if (!reader.openRecord()) {
-        end(storage, UNIT_NO_RECORD, 0);
+        end(UNIT_NO_RECORD, 0);
       } else if (reader.isAtEnd()) {
-        finishCommand(storage);
+        finishCommand();
       }
     }
 
     private void moveByte(Storage storage) {
       boolean stores = isReading() && !flagged(SKIP);
       if (!Storage.holds(address, 1)) {
-        end(storage, 0, CHECK_PROGRAM);
+        end(0, CHECK_PROGRAM);
         return;
       }
       if (stores && !storage.isOpen(address, 1, key)) {
-        end(storage, 0, CHECK_PROTECTION);
+        end(0, CHECK_PROTECTION);
         return;
       }
       if (stores) {
@@ -673,17 +686,18 @@ public final class SmallFrame {
       }
       address++;
       count--;
-      goOn(storage);
+      goOn();
     }
 
-    private void goOn(Storage storage) {
+    /** A record without more bytes ends its command even where a data chain would go on. */
+    private void goOn() {
       if (isReading() && reader.isAtEnd()) {
-        finishCommand(storage);
+        finishCommand();
       } else if (count == 0 && flagged(DATA_CHAIN)) {
         hasCommand = false;
         dataChained = true;
       } else if (count == 0) {
-        finishCommand(storage);
+        finishCommand();
       }
     }
 
@@ -691,25 +705,29 @@ public final class SmallFrame {
       return (flags & flag) != 0;
     }
 
-    private void finishCommand(Storage storage) {
+    private void finishCommand() {
       hasCommand = false;
       dataChained = false;
       boolean wrongLength = isReading() && (count != 0 || !reader.isAtEnd());
       if (wrongLength && !flagged(ANY_LENGTH)) {
-        end(storage, UNIT_ENDED, CHECK_LENGTH);
+        end(UNIT_ENDED, CHECK_LENGTH);
       } else if (!flagged(COMMAND_CHAIN)) {
-        end(storage, UNIT_ENDED, 0);
+        end(UNIT_ENDED, 0);
       }
     }
 
-    private void end(Storage storage, int unit, int check) {
+    private void end(int unitTold, int checkTold) {
+      unit = unitTold;
+      check = checkTold;
+      works = false;
+      waits = true;
+    }
+
+    private void putReport(Storage storage) {
       storage.putWord(CHANNEL_REPORT, key << 28 | place);
       storage.putByte(CHANNEL_REPORT + 4, unit);
       storage.putByte(CHANNEL_REPORT + 5, check);
       storage.putHalf(CHANNEL_REPORT + 6, count);
-      hasCommand = false;
-      works = false;
-      waits = true;
     }
   }
 
@@ -759,21 +777,39 @@ public final class SmallFrame {
 
     void makeStep() {
       steps++;
+      if (takeInterruption()) {
+        return;
+      }
+      runTimer();
+      int code = fetchInstruction();
+      if (code == FINE) {
+        switch (operation >> 6) {
+          case 0: code = doRr(); break;
+          case 1: code = doRx(); break;
+          case 2: code = doRsOrSi(); break;
+          default: code = doSs(); break;
+        }
+      }
+      if (code != FINE) {
+        programInterruptions++;
+        latestCode = code;
+        interrupt(OLD_PROGRAM, NEW_PROGRAM, code);
+      }
+    }
+
+    /** Takes the interruption that waits and is allowed; false if there is none. */
+    private boolean takeInterruption() {
       if (externalWaits && status.allows(MASK_EXTERNAL)) {
         externalWaits = false;
         interrupt(OLD_EXTERNAL, NEW_EXTERNAL, TIMER_CODE);
-      } else if (channel.waits && status.allows(MASK_CHANNEL)) {
+        return true;
+      }
+      if (channel.waits && status.allows(MASK_CHANNEL)) {
         channel.waits = false;
         interrupt(OLD_CHANNEL, NEW_CHANNEL, channel.device);
-      } else {
-        runTimer();
-        int code = doInstruction();
-        if (code != FINE) {
-          programInterruptions++;
-          latestCode = code;
-          interrupt(OLD_PROGRAM, NEW_PROGRAM, code);
-        }
+        return true;
       }
+      return false;
     }
 
     private void runTimer() {
@@ -789,7 +825,8 @@ public final class SmallFrame {
       status.loadFrom(storage, newPlace);
     }
 
-    private int doInstruction() {
+    /** PRIVILEGED can come before OPERATION: an operation that there is not has no mark. */
+    private int fetchInstruction() {
       int from = status.address;
       operation = storage.byteAt(from);
       int length = lengthOf(operation);
@@ -804,12 +841,7 @@ public final class SmallFrame {
         return PRIVILEGED;
       }
       decode(from);
-      switch (operation >> 6) {
-        case 0: return doRr();
-        case 1: return doRx();
-        case 2: return doRsOrSi();
-        default: return doSs();
-      }
+      return FINE;
     }
 
     /** A first byte beyond storage reads as 0, so it has the length 2 that it should have. */
@@ -959,13 +991,10 @@ public final class SmallFrame {
       if (r % 2 != 0) {
         return SPECIFICATION;
       }
-      putPair((long) register(r + 1) * register(s));
+      long product = (long) register(r + 1) * register(s);
+      putRegister(r, (int) (product >> 32));
+      putRegister(r + 1, (int) product);
       return FINE;
-    }
-
-    private void putPair(long value) {
-      putRegister(r, (int) (value >> 32));
-      putRegister(r + 1, (int) value);
     }
 
     private int divide() {
@@ -1265,8 +1294,11 @@ public final class SmallFrame {
       } else if (!first.takeFrom(storage, place, r + 1)) {
         return DATA;
       }
-      boolean subtracts = operation == 0xFB;
-      first.add(second, second.negative != subtracts);
+      if (operation == 0xFB) {
+        first.subtract(second);
+      } else {
+        first.add(second);
+      }
       return putPacked();
     }
 

@@ -79,6 +79,8 @@ public final class ChannelTest {
     Bench anyFewer = chain("any length, COUNT left", "02000600 60000005 02000610 00000001");
     ended(start(anyFewer.record("C1C2").record("C3"), 1).moves(50, 5), "00000310 0C000000")
         .bytes(0x600, "C1C200").bytes(0x610, "C300");
+    Bench low = chain("low flags mean nothing", "02000600 0FFF0001").record("C1C2");
+    ended(start(low, 1).moves(50, 2), "00000308 0C400000").bytes(0x600, "C100");
     Bench rest = chain("the rest is dropped", "02000600 60000001 02000610 20000001");
     ended(start(rest.record("C1C2").record("C3C4"), 1).moves(50, 4), "00000310 0C000000")
         .bytes(0x600, "C100").bytes(0x610, "C300");

@@ -6,6 +6,7 @@ public final class FaultsTest {
     privileges();
     protection();
     orderOfOperands();
+    packedAtTheEnd();
     nothingIsChanged();
     Bench.finish();
   }
@@ -88,6 +89,9 @@ public final class FaultsTest {
     keyed("across, the first byte closed").set(Bench.BLOCK + 5, 9).set(Bench.BLOCK + 6, 3)
         .fault("D201 50FF 6004", 4).bytes(0x5FF, "0000");
     keyed("90 across").set(1, 1).set(2, 2).fault("9012 50FC", 4).bytes(0x5FC, "0000000000000000");
+    keyed("90 far across").fault("901F 50C8", 4).bytes(0x5C8, "00000000").fine("901F 50C4");
+    keyed("F8 across").fault("F810 50FF 50F6", 4).bytes(0x5FF, "0000");
+    keyed("FA up to the border").put(0x5FC, "0000001C").fine("FA30 50FC 50F7").bytes(0x5FC, "0000002C");
     keyed("up to the border").fine("D200 50FF 6004").bytes(0x5FF, "0500");
     keyed("D2 over three blocks").set(Bench.BLOCK + 6, 3).set(Bench.BLOCK + 7, 3)
         .fine("D2FF 5080 5000").fine("D2FF 5180 5000").set(Bench.BLOCK + 7, 1).fault("D2FF 5180 5000", 4);
@@ -105,6 +109,15 @@ public final class FaultsTest {
     keyed("5 before DATA").set(1, 2048).fault("FA00 5004 1000", 5);
     keyed("5 before DATA of F9").set(1, 2048).fault("F900 1000 5000", 5);
     keyed("far beyond").set(1, -1).fault("D2FF 5000 1000", 5).set(1, -1).fault("43101000", 5);
+  }
+
+  private static void packedAtTheEnd() {
+    for (String op : new String[] {"F8", "F9", "FA", "FB"}) {
+      Bench bench = new Bench("end of storage " + op).put(0x7FE, "001C").put(0x500, "001C");
+      bench.set(1, 0x7FE).fine(op + "11 1000 0500").fine(op + "11 0500 1000");
+      bench.fault(op + "21 1000 0500", 5).fault(op + "12 0500 1000", 5);
+      bench.fault(op + "01 1002 0500", 5).fault(op + "10 0500 1002", 5);
+    }
   }
 
   private static void nothingIsChanged() {

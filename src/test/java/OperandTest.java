@@ -67,6 +67,7 @@ public final class OperandTest {
 
   private static void bytes() {
     with("43", 0x12345678, "EEFF").fine("43405001").has(4, 0x123456FF).cc(3);
+    with("43 over other bits", 0x12345678, "01").fine("43405000").has(4, 0x12345601);
     with("42", 0x12345678, "EEEEEE").fine("42405001").bytes(1536, "EE78EE").cc(3);
     new Bench("43 at the end").put(2047, "5A").fine("434007FF").has(4, 0x5A);
     new Bench("43 beyond").set(1, 1).fault("434017FF", 5).has(4, 0);
@@ -102,6 +103,7 @@ public final class OperandTest {
     with("4F too much", 9, "000002147483648A").fault("4F405000", 9).has(4, 9);
     with("4F too little", 9, "000002147483649D").fault("4F405000", 9).has(4, 9);
     with("4F far too much", 9, "999999999999999C").fault("4F405000", 9).has(4, 9);
+    with("4F with its highest digit", 9, "100000000000000C").fault("4F405000", 9).has(4, 9);
     with("4F of negative 0", 9, "000000000000000D").fine("4F405000").has(4, 0);
     with("4F digit", 9, "00A000000000000C").fault("4F405000", 7).has(4, 9);
     with("4F digit and too much", 9, "99999999999999AC").fault("4F405000", 7);

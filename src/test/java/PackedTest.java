@@ -67,9 +67,9 @@ public final class PackedTest {
   }
 
   private static void overflow() {
-    with("F8 cuts", "EEEE", "12345D").fine("F812 1000 2000").bytes(FIRST, "345D").cc(3);
+    with("F8 cuts", "EEEE", "12345D").set(Bench.CC, 1).fine("F812 1000 2000").bytes(FIRST, "345D").cc(3);
     with("F8 cuts to 0", "EEEE", "12000D").fine("F812 1000 2000").bytes(FIRST, "000C").cc(3);
-    with("F8 interrupts", "EEEE", "12345D").set(Bench.MASK, 16).fault("F812 1000 2000", 10)
+    with("F8 interrupts", "EEEE", "12345D").set(Bench.CC, 1).set(Bench.MASK, 16).fault("F812 1000 2000", 10)
         .bytes(FIRST, "345D").word(40, 0x1003000A).cc(0);
     with("FA cuts", "999C", "1C").fine("FA10 1000 2000").bytes(FIRST, "000C").cc(3);
     with("FA cuts a negative", "999D", "1D").fine("FA10 1000 2000").bytes(FIRST, "000C").cc(3);

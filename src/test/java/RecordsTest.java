@@ -61,6 +61,13 @@ public final class RecordsTest {
   }
 
   private static void recordsComeInTheirOrder() {
+    Bench eight = new Bench("eight in a row");
+    for (int k = 1; k <= 8; k++) {
+      eight.record("1" + k);
+    }
+    for (int k = 1; k <= 8; k++) {
+      read(eight).bytes(1536, "1" + k).fine("9D000000");
+    }
     Bench bench = new Bench("order of records");
     for (int k = 1; k <= 9; k++) {
       bench.record("0" + k + "AA").record("0" + k + "BB").looks(3, 2);

@@ -31,10 +31,10 @@ public final class RegisterTest {
     with("1A", 5, 7).fine("1A12").has(1, 12).has(2, 7).cc(2);
     with("1A zero", 5, -5).fine("1A12").has(1, 0).cc(0);
     with("1A negative", -5, -5).fine("1A12").has(1, -10).cc(1);
-    with("1A wraps", MAX, 1).fine("1A12").has(1, MIN).cc(3);
+    with("1A wraps", MAX, 1).set(Bench.CC, 1).fine("1A12").has(1, MIN).cc(3);
     with("1A wraps to 0", MIN, MIN).fine("1A12").has(1, 0).cc(3);
     with("1A masked otherwise", MAX, 1).set(Bench.MASK, 23).fine("1A12").has(1, MIN).cc(3);
-    with("1A interrupts", MAX, 1).set(Bench.MASK, 8).fault("1A12", 8).has(1, MIN)
+    with("1A interrupts", MAX, 1).set(Bench.CC, 1).set(Bench.MASK, 8).fault("1A12", 8).has(1, MIN)
         .word(40, 0x08030008).has(Bench.MASK, 0).cc(0);
     with("1A right with the mask", MAX, -1).set(Bench.MASK, 8).fine("1A12").has(1, MAX - 1).cc(2);
     with("1B", 5, 7).fine("1B12").has(1, -2).cc(1);
