@@ -81,6 +81,8 @@ public final class ChannelTest {
         .bytes(0x600, "C1C200").bytes(0x610, "C300");
     Bench low = chain("low flags mean nothing", "02000600 0FFF0001").record("C1C2");
     ended(start(low, 1).moves(50, 2), "00000308 0C400000").bytes(0x600, "C100");
+    Bench lowEnd = chain("low flags chain nothing", "02000600 0FFF0001").record("C1");
+    ended(start(lowEnd, 1).moves(50, 2), "00000308 0C000000");
     Bench rest = chain("the rest is dropped", "02000600 60000001 02000610 20000001");
     ended(start(rest.record("C1C2").record("C3C4"), 1).moves(50, 4), "00000310 0C000000")
         .bytes(0x600, "C100").bytes(0x610, "C300");
@@ -228,6 +230,12 @@ public final class ChannelTest {
     Bench after = chain("another START", "02000600 00000001").record("C1").record("C2");
     ended(start(after, 1).moves(50, 2), "00000308 0C000000").fine("9D000000").cc(1);
     ended(start(after, 1).moves(50, 2), "00000308 0C000000").bytes(0x600, "C2").looks(3, 0);
+    Bench midway = chain("START behind a command that broke", "010007FF 00000003");
+    ended(start(midway, 2).moves(50, 3), "00000308 00200002").fine("9D000000");
+    ended(start(midway, 2).moves(50, 3), "00000308 00200002").looks(4, 2).looks(5, 1);
+    Bench missing = chain("START behind a missing record", "02000600 00000001");
+    ended(start(missing, 1).moves(50, 1), "00000308 0D000001").fine("9D000000").record("C1");
+    ended(start(missing, 1).moves(50, 2), "00000308 0C000000").bytes(0x600, "C1");
     Bench broken = chain("START behind a data chain that broke", "01000600 80000001 01000600 00000000");
     ended(start(broken, 2).moves(50, 3), "00000310 00200000").fine("9D000000").put(CHAIN, "FF");
     ended(start(broken, 2).moves(50, 1), "00000308 00200001").looks(4, 1);

@@ -67,7 +67,7 @@ public final class OperandTest {
 
   private static void bytes() {
     with("43", 0x12345678, "EEFF").fine("43405001").has(4, 0x123456FF).cc(3);
-    with("43 over other bits", 0x12345678, "01").fine("43405000").has(4, 0x12345601);
+    with("43 over other bits", 0x123456FF, "00").fine("43405000").has(4, 0x12345600);
     with("42", 0x12345678, "EEEEEE").fine("42405001").bytes(1536, "EE78EE").cc(3);
     new Bench("43 at the end").put(2047, "5A").fine("434007FF").has(4, 0x5A);
     new Bench("43 beyond").set(1, 1).fault("434017FF", 5).has(4, 0);
