@@ -2,8 +2,10 @@ import java.util.Random;
 
 /** Any calls in any state: none throws, answers keep their range, refused calls change nothing. */
 public final class AnyCallsTest {
-  private static final int RUNS = 3000;
-  private static final int CALLS = 200;
+  private static final int RUNS = 6000;
+  /** A hundred turns of at most four calls leave room for the questions at last: 512 calls in all. */
+  private static final int TURNS = 100;
+  private static final int WORDS_AT_LAST = 64;
   private static final int[] FIRST_BYTES = {
     0x05, 0x07, 0x08, 0x09, 0x0A, 0x12, 0x14, 0x16, 0x17, 0x18, 0x19, 0x1A, 0x1B, 0x1C, 0x1D,
     0x40, 0x41, 0x42, 0x43, 0x45, 0x46, 0x47, 0x48, 0x49, 0x4A, 0x4E, 0x4F, 0x50, 0x58, 0x59,
@@ -28,7 +30,7 @@ public final class AnyCallsTest {
   public static void main(String[] args) {
     for (int seed = 0; seed < RUNS; seed++) {
       AnyCallsTest run = new AnyCallsTest(seed);
-      for (int k = 0; k < CALLS; k++) {
+      for (int k = 0; k < TURNS; k++) {
         run.makeCall();
       }
       run.compare();
@@ -148,7 +150,8 @@ public final class AnyCallsTest {
     for (int what = 0; what < 8; what++) {
       all.due("look(" + what + ") at last", all.frame.look(what), taken.frame.look(what));
     }
-    for (int address = 0; address < 2048; address += 4) {
+    for (int k = 0; k < WORDS_AT_LAST; k++) {
+      int address = random.nextInt(512) * 4;
       all.due("word(" + address + ") at last", all.frame.word(address), taken.frame.word(address));
     }
   }

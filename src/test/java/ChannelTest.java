@@ -1,6 +1,6 @@
 /** Promise 9, and START and the question 9D of promise 8: the channel and its chains. */
 public final class ChannelTest {
-  private static final int CHAIN = 0x300;
+  private static final int CHAIN = Bench.CHAIN;
 
   public static void main(String[] args) {
     starting();
@@ -22,16 +22,16 @@ public final class ChannelTest {
 
   /** A chain of command words at CHAIN, with the channel's key 0. */
   private static Bench chain(String title, String words) {
-    return new Bench(title).put(72, "00000300").put(CHAIN, words);
+    return new Bench(title).chain(words);
   }
 
   private static Bench start(Bench bench, int device) {
-    return bench.fine("9C0" + device + "0000").cc(0).looks(0, 1).looks(1, 0);
+    return bench.start(device);
   }
 
   /** What stands at 64 once the channel has ended. */
   private static Bench ended(Bench bench, String report) {
-    return bench.looks(0, 0).looks(1, 1).bytes(64, report);
+    return bench.ended(report);
   }
 
   private static void starting() {

@@ -16,13 +16,14 @@ public final class FaultsTest {
       + " 82 88 89 8A 90 91 92 94 95 96 98 9C 9D D2 D5 DC F8 F9 FA FB ";
 
   private static void operations() {
+    String says = "1 OPERATION (no such one)";
     for (int first = 0; first < 256; first++) {
       String op = String.format("%02X", first);
       String code = op + (first < 64 ? "00" : first < 192 ? "000000" : "0000000000");
       if (!KNOWN.contains(" " + op + " ")) {
-        new Bench("no operation " + op).set(Bench.MASK, 4).fault(code, 1);
+        new Bench(says + ": " + op).set(Bench.MASK, 4).fault(code, 1);
       } else {
-        Bench bench = new Bench("operation " + op).put(Bench.CODE, code).set(Bench.ADDRESS, Bench.CODE);
+        Bench bench = new Bench(says + ": there is " + op).put(Bench.CODE, code).set(Bench.ADDRESS, Bench.CODE);
         bench.frame.step(1);
         bench.due("OPERATION", bench.frame.look(7) == 1, false);
       }

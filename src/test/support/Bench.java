@@ -6,12 +6,17 @@ final class Bench {
   static final int MASK = 18;
   static final int CC = 19;
   static final int BLOCK = 20;
+  static final int CHAIN = 0x300;
+
+  /** The document leaves free what an object answers later. */
+  private static final int MOST_CALLS = 512;
 
   private static int wrong = 0;
   private static int asked = 0;
 
   final SmallFrame frame;
   private final String title;
+  private int calls = 0;
 
   Bench(String title) {
     this.title = title;
@@ -28,6 +33,11 @@ final class Bench {
 
   Bench due(String call, long got, long want) {
     asked++;
+    calls++;
+    if (calls > MOST_CALLS) {
+      wrong++;
+      System.out.println(title + ": " + call + " is call " + calls + " of one object");
+    }
     if (got != want) {
       wrong++;
       System.out.println(title + ": " + call + " answered " + got + ", due is " + want);
@@ -106,6 +116,25 @@ final class Bench {
       due("byte at " + place, frame.word(place) >>> 24, want);
     }
     return this;
+  }
+
+  /** Puts a chain of command words where START will find it, with the channel's key 0. */
+  Bench chain(String words) {
+    return put(72, "00000300").put(CHAIN, words);
+  }
+
+  Bench start(int device) {
+    return fine("9C0" + device + "0000").cc(0).looks(0, 1).looks(1, 0);
+  }
+
+  /** Makes all moves up to the end: how many there must be, and what must stand at 64 then. */
+  Bench runs(int moves, String report) {
+    return moves(50, moves).ended(report);
+  }
+
+  /** What must stand at 64 once the channel has ended. */
+  Bench ended(String report) {
+    return looks(0, 0).looks(1, 1).bytes(64, report);
   }
 
   /** Punches a record and puts it behind those that wait. */
