@@ -77,6 +77,11 @@ public final class ChannelSentencesTest {
     least.runs(2, "00000008 0C000000");
     Bench taken = new Bench(says + ": the word is taken at START").chain("01000600 00000001").start(2);
     taken.put(72, "F0000340").runs(2, "00000308 0C000000");
+    Bench broken = new Bench(says + ": behind a chain that broke").chain("01000600 80000001 00000600 00000000");
+    broken.start(2).runs(3, "00000310 00200000").fine("9D000000").put(CHAIN, "FF").start(2);
+    broken.runs(1, "00000308 00200001").looks(4, 1);
+    Bench amid = new Bench(says + ": behind a command that broke").chain("010007FF 00000003").start(2);
+    amid.runs(3, "00000308 00200002").fine("9D000000").start(2).moves(1, 1).looks(4, 2).looks(5, 0);
     Bench anyOperand = new Bench(says + ": no operand").chain("01000600 00000001").set(5, -1).set(Bench.KEY, 3);
     anyOperand.fine("9C025FFF").cc(0).looks(0, 1);
   }
@@ -372,7 +377,8 @@ public final class ChannelSentencesTest {
   }
 
   private static void lengthMatters() {
-    String says = "if (for 2) bytes of the record are left or COUNT is not 0, and LENGTH matters, it ENDS with CHECK 64";
+    String says = "if (for 2) bytes of the record are left or COUNT is not 0, and LENGTH matters, it ENDS with"
+        + " CHECK 64";
     for (int length = 0; length <= 4; length++) {
       for (int count = 1; count <= 5; count++) {
         Bench bench = new Bench(says + ": " + length + " for " + count).record(SIXTEEN.substring(0, 2 * length));

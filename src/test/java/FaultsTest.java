@@ -23,8 +23,8 @@ public final class FaultsTest {
       if (!KNOWN.contains(" " + op + " ")) {
         new Bench(says + ": " + op).set(Bench.MASK, 4).fault(code, 1);
       } else {
-        Bench bench = new Bench(says + ": there is " + op).put(Bench.CODE, code).set(Bench.ADDRESS, Bench.CODE);
-        bench.frame.step(1);
+        Bench bench = new Bench(says + ": there is " + op).put(Bench.CODE, code);
+        bench.set(Bench.ADDRESS, Bench.CODE).frame.step(1);
         bench.due("OPERATION", bench.frame.look(7) == 1, false);
       }
     }

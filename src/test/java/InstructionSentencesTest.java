@@ -2,10 +2,13 @@
 public final class InstructionSentencesTest {
   private static final int MIN = Integer.MIN_VALUE;
   private static final int MAX = Integer.MAX_VALUE;
-  private static final int[] EDGES = {0, 1, -1, 2, -2, 32767, 32768, -32768, -32769, MAX, MAX - 1, MIN, MIN + 1};
+  private static final int[] EDGES = {
+    0, 1, -1, 2, -2, 32767, 32768, -32768, -32769, MAX, MAX - 1, MIN, MIN + 1,
+  };
 
   public static void main(String[] args) {
     registerZeroCountsNothing();
+    noIndexOutsideRx();
     lowest24Bits();
     lengthsOfRows();
     signOfResults();
@@ -58,12 +61,29 @@ public final class InstructionSentencesTest {
     bench.fine("41300000").has(3, 0).fine("41300FFF").has(3, 0xFFF).fine("41301FFF").has(3, 0x2FFF);
     bench.fine("41310FFF").has(3, 0x2FFF).fine("41321FFF").has(3, 0x32FFF).fine("41311001").has(3, 0x4001);
     bench.fine("41000005").has(0, 5);
-    // Outside RX the second half of the second byte is no index.
-    new Bench(says + ": RS").set(4, 1).set(5, 3).fine("89450001").has(4, 2);
-    new Bench(says + ": SI").set(5, 0x100).fine("92050600").bytes(0x600, "05").bytes(0x700, "00");
-    new Bench(says + ": SS").set(1, 0x100).put(0x600, "C1C2").fine("D201 0680 0600").bytes(0x680, "C1C2");
     new Bench(says + ": both of SS").set(1, 0x600).set(2, 0x680).put(0x600, "C1").fine("D200 2000 1000")
         .bytes(0x680, "C1");
+  }
+
+  private static void noIndexOutsideRx() {
+    String says = "in RX + the register S (0 for S 0)";
+    for (int s = 0; s < 16; s++) {
+      String half = Integer.toHexString(s);
+      allRegisters(says + ": RS " + s).fine("894" + half + "0001").has(4, 0x22);
+      allRegisters(says + ": SI " + s).fine("920" + half + "0600").bytes(0x600, "0" + half).bytes(0x611, "00");
+      allRegisters(says + ": SS " + s).put(0x600, "C1").fine("D20" + half + "0680 0600").bytes(0x680, "C100")
+          .bytes(0x691, "00");
+      allRegisters(says + ": RX " + s).put(0x600, "C1").put(0x611, "C2").fine("434" + half + "0600")
+          .has(4, s == 0 ? 0xC1 : 0xC2);
+    }
+  }
+
+  private static Bench allRegisters(String title) {
+    Bench bench = new Bench(title);
+    for (int k = 0; k < 16; k++) {
+      bench.set(k, 0x11);
+    }
+    return bench;
   }
 
   private static void lowest24Bits() {
@@ -322,7 +342,8 @@ public final class InstructionSentencesTest {
           .has(1, Integer.parseInt(row[1])).cc(3).bytes(0x600, row[0]);
     }
     String[] large = {
-      "000002147483648C", "000002147483649D", "000004294967296C", "010000000000000C", "999999999999999D",
+      "000002147483648C", "000002147483649D", "000004294967296C", "010000000000000C", "100000000000000C",
+      "999999999999999D",
     };
     for (String number : large) {
       new Bench(says + ": DIVIDE " + number).put(0x600, number).set(1, 7).fault("4F100600", 9).has(1, 7);
@@ -495,6 +516,8 @@ public final class InstructionSentencesTest {
         bench.fine("D502 0600 0680").cc(one == two ? 2 : orderOf(one, two));
       }
     }
+    Bench first = new Bench(says + ": first byte").put(0x5FF, "00C2C0").put(0x67F, "FFC1C9");
+    first.fine("D500 0600 0680").cc(2).fine("D501 0600 0680").cc(2).fine("D501 0680 0600").cc(1);
     Bench last = new Bench(says + ": byte 256").put(0x6FF, "01").fine("D5FE 0600 0500").cc(0);
     last.fine("D5FF 0600 0500").cc(2).fine("D5FF 0500 0600").cc(1);
   }

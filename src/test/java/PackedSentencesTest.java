@@ -98,6 +98,8 @@ public final class PackedSentencesTest {
     result(says, "F8", "FFFFFF", "012D", "00012D", 1);
     result(says, "F8", "000000", "005C", "00005C", 2);
     result(says, "F8", "AB", "5C", "5C", 2);
+    done(says + ": nor those of an instruction before", "FA", "333C", "333C").fine("F811 0600 0680")
+        .bytes(FIRST, "333C").cc(2);
   }
 
   private static void result(String says, String op, String[] row) {

@@ -306,7 +306,8 @@ public final class PromiseSentencesTest {
 
   private static void printedBytes() {
     String says = "Byte k of the latest line; -1 if it is none of its first 32.";
-    Bench bench = new Bench(says).chain("01000600 40000021 01000601 00000002").put(0x600, "FF007F80").put(0x61E, "C1C2C3");
+    Bench bench = new Bench(says).chain("01000600 40000021 01000601 00000002");
+    bench.put(0x600, "FF007F80").put(0x61E, "C1C2C3");
     bench.prints(0, -1).start(2).moves(1, 1).prints(0, -1).moves(1, 1).prints(0, 255).prints(1, -1);
     bench.moves(3, 3).prints(1, 0).prints(2, 127).prints(3, 128).prints(4, -1);
     bench.moves(27, 27).prints(30, 0xC1).prints(31, -1).moves(1, 1).prints(31, 0xC2).prints(32, -1);
